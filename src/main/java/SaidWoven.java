@@ -34,19 +34,17 @@ public final class SaidWoven {
     private Tongue tongue = new Tongue();
     private Tongue draft = new Tongue();
     private final Book book = new Book();
-    private final Book[] kept = new Book[MOST_KEPT];
+    private final Book keptFirst = new Book();
+    private final Book keptSecond = new Book();
     private int keptCount;
     private final Course course = new Course();
-    private final Loom loom = new Loom();
+    private final Loom loom = new Loom(tongue);
     private final Slips slipped = new Slips();
     private final Heads heads = new Heads();
     private final int[] slippedRow = new int[PLACES];
     private final int[] farBySet = new int[ALL_SETS];
 
     public SaidWoven() {
-        for (int i = 0; i < MOST_KEPT; i++) {
-            kept[i] = new Book();
-        }
     }
 
     // ---- texts, verses
@@ -333,7 +331,7 @@ public final class SaidWoven {
         if (keptCount >= MOST_KEPT) {
             return FULL;
         }
-        kept[keptCount].copy(book);
+        keptAt(keptCount).copy(book);
         keptCount++;
         return keptCount;
     }
@@ -343,7 +341,7 @@ public final class SaidWoven {
             return NO;
         }
         keptCount--;
-        book.copy(kept[keptCount]);
+        book.copy(keptAt(keptCount));
         return keptCount;
     }
 
@@ -372,6 +370,10 @@ public final class SaidWoven {
 
     private static boolean isBelow(int number, int bound) {
         return number >= 0 && number < bound;
+    }
+
+    private Book keptAt(int i) {
+        return i == 0 ? keptFirst : keptSecond;
     }
 
     /** At least 1, so that it may divide. */
@@ -818,6 +820,10 @@ public final class SaidWoven {
         private final int[][] spanWeight = new int[PLACES][MOST_SPANS];
         private final int[] seat = {NOBODY, NOBODY, NOBODY};
 
+        Wants(Tongue tongue) {
+            this.tongue = tongue;
+        }
+
         void begin(Tongue tongue) {
             this.tongue = tongue;
             for (int p = 0; p < PLACES; p++) {
@@ -928,7 +934,7 @@ public final class SaidWoven {
         private static final int BEGUN = 8;
         private static final int ALL_BEGUN = BEGUN - 1;
 
-        final Wants wants = new Wants();
+        final Wants wants;
         int fewest;
         long nearestRows;
         private int words;
@@ -936,6 +942,10 @@ public final class SaidWoven {
         private final int[][] least = new int[PLACES][BEGUN * MOST_WORDS];
         private final long[][] rows = new long[PLACES][BEGUN * MOST_WORDS];
         private final int[] unlikeSpans = new int[BEGUN];
+
+        Loom(Tongue tongue) {
+            wants = new Wants(tongue);
+        }
 
         void begin(Tongue tongue, int places) {
             this.places = places;

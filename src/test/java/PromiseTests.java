@@ -20,7 +20,7 @@ public final class PromiseTests {
         promise = 1; aNewObject();
         promise = 2; write();
         promise = 3; wipe();
-        promise = 4; faultOfItems(); faultOfWords(); faultOfJoinings(); faultOfHours();
+        promise = 4; faultOfItems(); faultOfWords(); faultOfJoinings(); faultOfHours(); faultAtTheEnd();
         promise = 5; lay();
         promise = 6; joined();
         promise = 7; add();
@@ -243,6 +243,23 @@ public final class PromiseTests {
         faultIs("h0,1;h9,1;", 5);
     }
 
+    private static void faultAtTheEnd() {
+        String many = "h0,1;".repeat(59);
+        faultIs(many + "h0,1;", NONE);
+        faultIs(many + "h0,11", 295);
+        faultIs(many + "hhh0,", 295);
+        faultIs(many + "h0,1;h0,1;", NONE);
+        // what stood behind the end in an earlier text counts no more
+        SaidWoven x = new SaidWoven();
+        text(x, "w1,2,3;");
+        text(x, "w1,2,3");
+        due("fault of a text cut short", x.fault(), 0);
+        text(x, "w1,2,");
+        due("fault of a text cut shorter", x.fault(), 0);
+        text(x, "w1,2");
+        due("fault of a text cut shorter yet", x.fault(), 0);
+    }
+
     private static void lay() {
         SaidWoven x = laid(HIDING + "h1,7;");
         verse(x, 0, 0, 1);
@@ -290,6 +307,11 @@ public final class PromiseTests {
         due("joined(7, 7)", x.joined(7, 7), 0);
         due("joined(7, 0)", x.joined(7, 0), 56);
         due("joined(0, 7)", x.joined(0, 7), 7);
+        text(x, "j7,7,1,1;");
+        x.lay();
+        due("joined(0, 0) without its item", x.joined(0, 0), 0);
+        due("joined(2, 3) without its item", x.joined(2, 3), 19);
+        due("joined(7, 7) with another item", x.joined(7, 7), 9);
         due("joined(8, 0)", x.joined(8, 0), BAD);
         due("joined(0, 8)", x.joined(0, 8), BAD);
         due("joined(-1, 0)", x.joined(-1, 0), BAD);
@@ -701,6 +723,11 @@ public final class PromiseTests {
         due("a last edge: hidden", x.slips(0), 1);
         due("a last edge: parted shows all", x.slips(1), 2);
         due("a last edge: not listed", x.slips(2), 2);
+        SaidWoven first = laid(HIDING);
+        verse(first, 0, 0, 1);
+        first.slip(0, 0, 2);
+        due("the first one is hidden", first.slips(0), 1);
+        due("the first one is shown by parted", first.slips(1), 2);
         x.slip(0, 1, 1);
         x.slip(0, 2, 1);
         x.slip(1, 0, 1);
@@ -893,6 +920,15 @@ public final class PromiseTests {
         due("from(0, 0) of those alive", x.from(0, 0), 2);
         x.alive(2, false);
         due("from(0, 0) of nobody", x.from(0, 0), NONE);
+        for (int i = 3; i < 16; i++) {
+            x.head(0, -1, 3);
+        }
+        due("from of sixteen", x.from(0, 0), NONE);
+        due("from of all but the last", x.from(32767, 3), 15);
+        due("from of all", x.from(65535, 3), NONE);
+        x.lay();
+        due("from after lay", x.from(0, 3), NONE);
+        due("lost after lay", x.lost(0), 0);
     }
 
     private static void odds() {
