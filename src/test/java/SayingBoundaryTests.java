@@ -295,6 +295,24 @@ public final class SayingBoundaryTests extends Checks {
             verseIs("the verse yet", y, 1, 3, 0, 3);
         }
         due("rivals", y.rivals(), 1);
+        // at each place, with as many words and places as there may be
+        SaidWoven z = eightWords(words(16));
+        z.say(0, 4);
+        for (int group = 0; group < 6; group++) {
+            for (int i = 0; i < 3; i++) {
+                z.alter(13 * group + middles[i], 1021 + i);
+            }
+            due("altered in so many groups: " + (group + 1), z.nearest(1), 3 * group + 3);
+            verseIs("the verse yet", z, 1, 0, 1, 2, 3, 0, 1, 2, 3);
+            due("rivals", z.rivals(), 1);
+        }
+        verse(z, 0, 15, 15, 15, 15, 15, 15, 15, 15);
+        z.say(0, 4);
+        for (int i = 0; i < 3; i++) {
+            z.alter(middles[i], 128 + i);
+        }
+        due("the last word with other last edges", z.nearest(1), 3);
+        verseIs("the last word at each place", z, 1, 15, 15, 15, 15, 15, 15, 15, 15);
     }
 
     private static void askedAgain() {
